@@ -674,22 +674,10 @@ public final class EndTables {
          */
         private void solve(Table[] others) {
             fillValid();
-            int seeds = kind == PAWN ? deepestOf(others) : DRAWN;
-            boolean found = true;
-            for (int half = 0; half < HALVES && (found || 2 * half <= seeds); half++) {
+            for (int half = 0; half < HALVES; half++) {
                 findBlack(half);
-                found = findWhite(half, others);
+                findWhite(half, others);
             }
-        }
-
-        private static int deepestOf(Table[] others) {
-            int most = DRAWN;
-            for (int other = KNIGHT; other <= QUEEN; other++) {
-                if (other < others.length && others[other] != null) {
-                    most = Math.max(most, others[other].deepest);
-                }
-            }
-            return most;
         }
 
         private void fillValid() {
@@ -728,30 +716,35 @@ public final class EndTables {
             return mine & ~board.nextTo(escapes) & (check | board.nextTo(targets));
         }
 
-        /** White's positions of one more than black's fresh ones; whether there are any. */
-        private boolean findWhite(int half, Table[] others) {
+        /** White's positions of one more than black's fresh ones. */
+        private void findWhite(int half, Table[] others) {
             for (int white = 0; white < board.cells; white++) {
                 for (int man = 0; man < board.cells; man++) {
                     long set = at(fresh, rowOf(BLACK, white, man));
                     if (set != 0) {
-                        goBackKing(white, man, set);
-                        goBackMan(white, man, set);
+                        goBack(white, man, set);
                     }
                 }
             }
             if (kind == PAWN) {
                 findPromotions(half, others);
             }
-            return keepFresh(half);
+            keepFresh(half);
         }
 
-        private boolean keepFresh(int half) {
-            boolean found = false;
+        private void goBack(int white, int man, long set) {
+            goBackKing(white, man, set);
+            if (kind == PAWN) {
+                goBackPawn(white, man, set);
+            } else {
+                goBackMan(white, man, set);
+            }
+        }
+
+        private void keepFresh(int half) {
             for (int row = 0; row < rows; row++) {
-                found = found || at(fresh, row) != 0;
                 keep(WHITE, row, half, at(fresh, row));
             }
-            return found;
         }
 
         private void keep(int side, int row, int half, long set) {
@@ -781,23 +774,15 @@ public final class EndTables {
             }
         }
 
-        /** Black's king bars the way only in those positions of the set where it stands there. */
+        /**
+         * The man goes back where it could go: black's king never bars that way, as it would have
+         * been in check with white to move.
+         */
         private void goBackMan(int white, int man, long set) {
-            if (kind == PAWN) {
-                goBackPawn(white, man, set);
-                return;
-            }
-            int reach = Board.reach(kind);
-            for (int way = Board.firstWay(kind); way < Board.endOfWays(kind); way++) {
-                long open = set;
-                int cell = man;
-                for (int i = 0; i < reach; i++) {
-                    cell = board.step(cell, way);
-                    if (cell == NO_CELL || cell == white) {
-                        break;
-                    }
-                    open &= ~Board.bit(cell);
-                    win(white, cell, open);
+            long from = board.attacked(kind, man, Board.bit(white)) & ~Board.bit(white);
+            for (int cell = 0; cell < board.cells; cell++) {
+                if ((from & Board.bit(cell)) != 0) {
+                    win(white, cell, set);
                 }
             }
         }
