@@ -28,7 +28,13 @@ public final class EndTables {
 
     public EndTables(int files, int ranks) {
         board = new Board(files, ranks);
+        // Calls make nothing but what they throw: all that a run needs is made here, in no loop.
         tables = new Table[QUEEN + 1];
+        tables[PAWN] = new Table(board, PAWN);
+        tables[KNIGHT] = new Table(board, KNIGHT);
+        tables[BISHOP] = new Table(board, BISHOP);
+        tables[ROOK] = new Table(board, ROOK);
+        tables[QUEEN] = new Table(board, QUEEN);
         now = new Position();
         ahead = new Position();
         list = new MoveList();
@@ -188,16 +194,15 @@ public final class EndTables {
     }
 
     /**
-     * Tables are made when they are first asked for, as most calls need none or one of them; a
-     * pawn's needs the others, so it comes last.
+     * Distances are found when they are first asked for, as most calls need none or one kind's; a
+     * pawn's need the others', so it comes last.
      */
     private Table prepare(int kind) {
         int from = kind == PAWN ? QUEEN : kind;
         for (int k = from; k >= kind; k--) {
-            if (isMan(k) && k < tables.length && tables[k] == null) {
-                Table table = new Table(board, k);
+            Table table = tableOf(k);
+            if (table != null && !table.solved) {
                 table.solve(tables);
-                tables[k] = table;
             }
         }
         return tableOf(kind);
@@ -555,6 +560,7 @@ public final class EndTables {
         private static final int PLANES = 5;
         // No board has a distance above 56, so no half above 28.
         private static final int HALVES = 32;
+        private static final int MOST_CELLS = 64;
 
         private final Board board;
         private final int kind;
@@ -564,16 +570,20 @@ public final class EndTables {
         private final long[] fresh;
         private final long[] planes;
         private int deepest;
+        private boolean solved;
 
         private Table(Board board, int kind) {
             this.board = board;
             this.kind = kind;
-            rows = board.cells * board.cells;
+            // No board has more cells; said here again, so that the rows' lengths can be told.
+            int cells = Math.max(0, Math.min(board.cells, MOST_CELLS));
+            rows = cells * cells;
             valid = new long[2 * rows];
             known = new long[2 * rows];
             fresh = new long[2 * rows];
             planes = new long[2 * rows * PLANES];
             deepest = DRAWN;
+            solved = false;
         }
 
         private int rowOf(int side, int white, int man) {
@@ -678,6 +688,7 @@ public final class EndTables {
                 findBlack(half);
                 findWhite(half, others);
             }
+            solved = true;
         }
 
         private void fillValid() {
