@@ -198,10 +198,10 @@ public final class EndTables {
      * pawn's need the others', so it comes last.
      */
     private Table prepare(int kind) {
-        int from = kind == PAWN ? QUEEN : kind;
-        for (int k = from; k >= kind; k--) {
+        for (int k = QUEEN; k >= PAWN; k--) {
             Table table = tableOf(k);
-            if (table != null && !table.solved) {
+            boolean needed = k == kind || kind == PAWN;
+            if (needed && table != null && !table.solved) {
                 table.solve(tables);
             }
         }
@@ -342,7 +342,10 @@ public final class EndTables {
         }
 
         private void layCell(int file, int rank) {
-            int cell = file + files * rank;
+            int cell = cellAt(file, rank);
+            if (cell < 0 || cell >= cells) {
+                return;
+            }
             squares[cell] = file + 8 * rank;
             for (int way = 0; way < WAYS; way++) {
                 steps[way * cells + cell] = cellAt(file + FILE_STEPS[way], rank + RANK_STEPS[way]);

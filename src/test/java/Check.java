@@ -7,8 +7,16 @@ final class Check {
 
     private static int passed = 0;
     private static int failed = 0;
+    private static int sentences = 0;
+    private static String sentence = "";
 
     private Check() {
+    }
+
+    /** What is looked at from now on tests these words of the document. */
+    static void sentence(String words) {
+        sentence = "\"" + words + "\": ";
+        sentences++;
     }
 
     /** The call must answer this. */
@@ -49,13 +57,14 @@ final class Check {
     static void fail(String what) {
         failed++;
         if (failed <= 100) {
-            System.out.println(what);
+            System.out.println(sentence + what);
         }
     }
 
     /** Ends the test: exit code 1 if an answer was not the one that was due. */
     static void end(String test) {
-        System.out.println(test + ": " + passed + " answers as due, " + failed + " not");
+        String of = sentences == 0 ? "" : ", on " + sentences + " sentences";
+        System.out.println(test + ": " + passed + " answers as due, " + failed + " not" + of);
         if (failed > 0) {
             System.exit(1);
         }

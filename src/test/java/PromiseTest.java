@@ -1,15 +1,5 @@
 /** Each promise by ordinary calls, by the edges that the document names, and by wrong calls. */
-public final class PromiseTest {
-    private static final int PAWN = 1;
-    private static final int KNIGHT = 2;
-    private static final int BISHOP = 3;
-    private static final int ROOK = 4;
-    private static final int QUEEN = 5;
-    private static final int WHITE = 0;
-    private static final int BLACK = 1;
-    private static final int[] WILD = {Integer.MIN_VALUE, -4096, -65, -64, -2, -1, 6, 64, 65, 100, 4096, 262144,
-        Integer.MAX_VALUE};
-
+public final class PromiseTest extends Boards {
     private PromiseTest() {
     }
 
@@ -36,55 +26,6 @@ public final class PromiseTest {
         throwingChangesNothing();
         wildCalls();
         Check.end("PromiseTest");
-    }
-
-    /** A square by its usual name: at("a1") is 0. */
-    private static int at(String name) {
-        return name.charAt(0) - 'a' + 8 * (name.charAt(1) - '1');
-    }
-
-    private static int move(String from, String to) {
-        return at(from) + 64 * at(to);
-    }
-
-    private static EndTables board(int kind, String white, String man, String black, int side) {
-        EndTables x = new EndTables(8, 8);
-        Check.yes("set " + kind + white + man + black + side, x.set(kind, at(white), kind == 0 ? 0 : at(man),
-            at(black), side));
-        return x;
-    }
-
-    private static void distance(int want, EndTables x, int kind, String white, String man, String black, int side) {
-        Check.due("distance " + kind + white + man + black + side, want,
-            () -> x.distance(kind, at(white), at(man), at(black), side));
-    }
-
-    private static void noPosition(EndTables x, int kind, int white, int man, int black, int side) {
-        String call = "(" + kind + ", " + white + ", " + man + ", " + black + ", " + side + ")";
-        Check.thrown("distance" + call, IllegalArgumentException.class,
-            () -> x.distance(kind, white, man, black, side));
-        Check.due("set" + call, 0, () -> x.set(kind, white, man, black, side) ? 1 : 0);
-    }
-
-    private static void stands(EndTables x, int kind, int white, int man, int black, int side) {
-        int[] want = {kind, white, man, black, side};
-        for (int what = 0; what < want.length; what++) {
-            int w = what;
-            Check.due("about " + w, want[w], () -> x.about(w));
-        }
-    }
-
-    private static void nothingSet(EndTables x) {
-        Class<IllegalStateException> state = IllegalStateException.class;
-        for (int k : new int[] {-1, 0, 5, 6, 101}) {
-            Check.thrown("about without a position", state, () -> x.about(k));
-            Check.thrown("move without a position", state, () -> x.move(k));
-            Check.thrown("play without a position", state, () -> x.play(k));
-            Check.thrown("run without a position", state, () -> x.run(k));
-        }
-        Check.thrown("left without a position", state, x::left);
-        Check.thrown("moves without a position", state, x::moves);
-        Check.thrown("best without a position", state, x::best);
     }
 
     private static void promise1() {
@@ -244,15 +185,6 @@ public final class PromiseTest {
         Check.due("3x3, all bishops", positions(three, BISHOP, BLACK), () -> three.count(BISHOP, BLACK, -1));
     }
 
-    private static int positions(EndTables ofSize, int kind, int side) {
-        Reference ref = new Reference(ofSize.size(false), ofSize.size(true));
-        int many = 0;
-        for (int i = 0; i < 64 * 64 * 64; i++) {
-            many += ref.isPosition(kind, i / 4096, i / 64 % 64, i % 64, side) ? 1 : 0;
-        }
-        return many;
-    }
-
     private static void promise5() {
         EndTables x = new EndTables(8, 8);
         int before = -1;
@@ -372,17 +304,6 @@ public final class PromiseTest {
         EndTables small = new EndTables(3, 3);
         Check.yes("set", small.set(0, 0, 0, 2, WHITE));
         Check.due("3x3", 1, small::moves);
-    }
-
-    private static void order(EndTables x, int... want) {
-        Check.due("moves", want.length, x::moves);
-        for (int k = 0; k < want.length; k++) {
-            int at = k;
-            Check.due("move " + k, want[k], () -> x.move(at));
-        }
-        for (int k : new int[] {want.length, -1, 64, Integer.MIN_VALUE, Integer.MAX_VALUE}) {
-            Check.thrown("move " + k, IndexOutOfBoundsException.class, () -> x.move(k));
-        }
     }
 
     private static void promise11() {

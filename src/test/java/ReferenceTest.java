@@ -7,15 +7,12 @@ import java.util.List;
  * boards than the usual ones.
  */
 public final class ReferenceTest {
-    private static final int CALLS = 512;
-
     private final Reference ref;
-    private EndTables x;
-    private int calls;
+    private final Fresh fresh;
 
     private ReferenceTest(int files, int ranks) {
         ref = new Reference(files, ranks);
-        calls = CALLS;
+        fresh = new Fresh(files, ranks);
     }
 
     public static void main(String[] args) {
@@ -70,23 +67,13 @@ public final class ReferenceTest {
         found.get(distance + 1).add(told);
     }
 
-    /** An object answers 512 calls, so a new one comes when they are used up. */
-    private EndTables use(int more) {
-        if (calls + more > CALLS) {
-            x = new EndTables(ref.files, ref.ranks);
-            calls = 0;
-        }
-        calls += more;
-        return x;
-    }
-
     private String name(String call) {
         return ref.files + "x" + ref.ranks + " " + call;
     }
 
     private void position(int kind, int white, int man, int black, int side, boolean stands) {
         String p = name(kind + "," + white + "," + man + "," + black + "," + side + ": ");
-        EndTables e = use(60);
+        EndTables e = fresh.use(60);
         Check.due(p + "set", stands ? 1 : 0, () -> e.set(kind, white, man, black, side) ? 1 : 0);
         if (!stands || kind == 0) {
             Check.thrown(p + "distance", IllegalArgumentException.class,
@@ -157,7 +144,7 @@ public final class ReferenceTest {
             int n = d;
             List<Integer> list = d >= -1 && d + 1 < found.size() ? found.get(d + 1) : List.of();
             String p = name(kind + "," + side + "," + n + ": ");
-            EndTables e = use(20);
+            EndTables e = fresh.use(40);
             Check.due(p + "count", list.size(), () -> e.count(kind, side, n));
             int every = Math.max(1, list.size() / 15);
             for (int k = 0; k < list.size(); k += every) {
@@ -182,7 +169,7 @@ public final class ReferenceTest {
             }
         }
         int want = most;
-        EndTables e = use(1);
+        EndTables e = fresh.use(1);
         Check.due(name("longest " + kind), want, () -> e.longest(kind));
     }
 }
